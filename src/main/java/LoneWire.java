@@ -717,7 +717,6 @@ public final class LoneWire {
         /** For how long the line stays LOW behind a hold. */
         private int rise = 1;
         private long now;
-        private long hostFrom = Device.LONG_AGO;
         private long hostUntil = Device.LONG_AGO;
         private int slots;
         private int resets;
@@ -814,12 +813,9 @@ public final class LoneWire {
             return lowUntil(moment) > moment;
         }
 
-        /** Till when the line is LOW by a hold that goes on at that moment; the moment itself if by none. */
+        /** Till when the line is LOW by a hold that goes on at a moment from now on; that moment if by none. */
         private long lowUntil(long moment) {
-            long until = moment;
-            if (hostFrom <= moment) {
-                until = Math.max(until, hostUntil + rise);
-            }
+            long until = Math.max(moment, hostUntil + rise);
             for (int i = 0; i < devices.length; i++) {
                 Device device = devices[i];
                 if (device != null && device.holdFrom <= moment) {
@@ -859,7 +855,6 @@ public final class LoneWire {
         /** A SLOT; sample is NONE when the host only WRITES. Answers what was sampled. */
         private int runSlot(int low, int sample, int length) {
             boolean wasLow = isLow(now);
-            hostFrom = now;
             hostUntil = now + low;
             int seen = 0;
             int reset = 0;

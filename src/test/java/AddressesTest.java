@@ -8,12 +8,14 @@ public final class AddressesTest {
     public static void main(String[] args) {
         promise18();
         promise18Wrong();
+        promise18Anew();
         promise18Alarm();
         promise19();
         promise20();
         promise21();
         promise22And23And24();
         promise25();
+        promise25Many();
         promise25Sixteen();
         promise26();
         promise27();
@@ -71,6 +73,27 @@ public final class AddressesTest {
         Check.due("all begins anew", 0, x.forks());
     }
 
+    /** Whatever goes wrong in the midst of a search, the next PASS is a first one. */
+    private static void promise18Anew() {
+        LoneWire x = four();
+        x.pass(false);
+        Check.due("-3", -3, x.pass(true));
+        dueAnew(x);
+        x.pass(false);
+        Check.due("the first", 40, x.found(0));
+        for (int d = 0; d < 4; d++) {
+            x.detach(d);
+        }
+        Check.due("-2", -2, x.pass(false));
+        dueAnew(x);
+    }
+
+    private static void dueAnew(LoneWire x) {
+        Check.due("no LAST", LoneWire.NONE, x.last());
+        Check.due("no FORKS", 0, x.forks());
+        Check.due("nothing FOUND", 0, x.found(0));
+    }
+
     private static void promise18Alarm() {
         LoneWire x = four();
         x.press(3, 0, true);
@@ -93,7 +116,7 @@ public final class AddressesTest {
         x.pass(false);
         Check.due("the first", 40, x.found(0));
         x.anew();
-        x.leave();
+        Check.due("no FORKS to LEAVE by", LoneWire.NONE, x.leave());
         x.anew();
         Check.due("a PASS is made", 1, x.pass(false));
     }
@@ -118,6 +141,13 @@ public final class AddressesTest {
         Check.due("the first SWITCH", 0, x.found(1));
         x.pass(false);
         Check.due("the next SWITCH", 4, x.found(1));
+        x.leave();
+        x.target(58);
+        Check.due("LAST in place of none: a PASS is made", 1, x.pass(false));
+        x.anew();
+        x.leave();
+        x.target(58);
+        Check.due("LAST in place of none: a PASS is made", 1, x.pass(false));
         x.target(60);
         Check.due("there is none such", 1, x.pass(false));
         Check.due("another FAMILY", true, x.found(0) != 60);
@@ -180,8 +210,7 @@ public final class AddressesTest {
         Check.due("KNOWN", 0, x.count(7));
     }
 
-    /** All is READ as 0: there is no end to it but 16; LAST goes 63, then what the CHECKSUM lets through. */
-    private static void promise25Sixteen() {
+    private static void promise25Many() {
         LoneWire x = new LoneWire();
         for (int i = 0; i < 8; i++) {
             x.attach(MEMORY, i, 15, 0, false);
@@ -193,6 +222,26 @@ public final class AddressesTest {
         x.time(0, 3, 6);
         Check.due("0, then a wrong CHECKSUM", 1, x.roll(false));
         Check.due("64 zeros", 0, x.known(0, 0));
+    }
+
+    /** The MEMORY runs out and comes back: the FORK at bit 0 is there and is not, and the host turns round and round. */
+    private static void promise25Sixteen() {
+        LoneWire x = new LoneWire();
+        x.attach(THERMOMETER, 0, 38, 0, false);
+        x.attach(MEMORY, 1, 58, 0, true);
+        x.attach(THERMOMETER, 2, 57, 0, false);
+        Check.due("16 at most", 16, x.roll(false));
+        Check.due("KNOWN", 16, x.count(7));
+        Check.due("the 16th", 2, x.known(15, 1));
+        Check.due("no 17th", LoneWire.NONE, x.known(16, 0));
+        Check.due("no 17th", LoneWire.NONE, x.measured(16));
+        Check.due("PASSES", 16 * 201, x.count(3));
+        Check.due("there would be more", 1, x.pass(false));
+        x.detach(2);
+        Check.due("each second one", 0xaaaa, x.missing());
+        x.measureAll(7200);
+        Check.due("the 15th", 320, x.measured(14));
+        Check.due("the 16th", -100004, x.measured(15));
     }
 
     private static void promise26() {

@@ -23,6 +23,7 @@ public final class KindsTest {
         memory();
         counter();
         deadLoses();
+        deadCounter();
         Check.end();
     }
 
@@ -346,6 +347,8 @@ public final class KindsTest {
         Check.due("behind 15 comes 0", 4, x.stored(0, 0));
         Check.tellAll(x, 240, 0xfe);
         Check.dueBytes("four from 14 on", x, 2, 3, 4, 0, x.checksum(0x00040302L, 32), 255);
+        Check.tellAll(x, 240, 9);
+        Check.dueBytes("four from 9 on, and no more", x, 0, 0, 0, 0, 0, 255);
         Check.dueDevice("DEAF then", x, 0, 3, 0);
         Check.dueDevice("never an ALARM", x, 0, 5, 0);
     }
@@ -376,6 +379,14 @@ public final class KindsTest {
         Check.dueDevice("LIMIT 0: never", x, 0, 5, 0);
     }
 
+    private static void choose105(LoneWire x, int device) {
+        x.reset();
+        x.write(105, 8);
+        x.speed(1);
+        Check.writeBytes(x, addressOf(x, device));
+        x.idle(2000);
+    }
+
     private static void deadLoses() {
         LoneWire x = new LoneWire();
         x.attach(THERMOMETER, 0, 30, 4, true);
@@ -386,15 +397,17 @@ public final class KindsTest {
         Check.tellAll(x, 15, 3, 9, 8, 7, 6);
         Check.tellAll(x, 85, 3);
         x.idle(2000);
-        x.pass(false);
-        Check.due("MINE", 1, x.device(0, 12) + x.device(1, 12));
-        x.idle(2000);
-        x.reset();
-        x.write(60, 8);
+        x.strong(true);
+        Check.tellAll(x, 68);
+        x.idle(7200);
+        Check.dueDevice("HEAT", x, 0, 7, 320);
+        Check.dueDevice("ALARM", x, 0, 5, 1);
+        choose105(x, 0);
+        Check.dueDevice("MINE", x, 0, 12, 1);
         Check.dueDevice("OVERDRIVE", x, 0, 2, 1);
-        x.slot(40, 0, 40);
-        for (int i = 0; i < 4; i++) {
-            x.slot(1000, 0, 1000);
+        // Too short for a RESET, so all stays: it is held LOW by many SLOTS of which none but the first has an EDGE.
+        for (int i = 0; i < 60; i++) {
+            x.slot(40, 0, 40);
         }
         for (int d = 0; d < 2; d++) {
             Check.dueDevice("DEAD", x, d, 3, 3);
@@ -409,5 +422,20 @@ public final class KindsTest {
         Check.dueDevice("TARGET", x, 1, 7, 0);
         Check.dueDevice("PAD", x, 1, 8, 0);
         Check.due("bytes stay", 9, x.stored(1, 3));
+        Check.dueDevice("no ALARM", x, 0, 5, 0);
+    }
+
+    private static void deadCounter() {
+        LoneWire x = new LoneWire();
+        x.attach(COUNTER, 0, 30, 0, true);
+        Check.tellAll(x, 77, 5, 0, 0, 0);
+        x.pulse(0, 6);
+        Check.dueDevice("ALARM", x, 0, 5, 1);
+        x.slot(1000, 0, 1000);
+        x.slot(1001, 0, 1001);
+        Check.dueDevice("DEAD", x, 0, 3, 3);
+        Check.dueDevice("COUNT", x, 0, 7, 0);
+        Check.dueDevice("LIMIT", x, 0, 8, 0);
+        Check.dueDevice("no ALARM", x, 0, 5, 0);
     }
 }

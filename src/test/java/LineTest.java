@@ -22,6 +22,8 @@ public final class LineTest {
         chargeInParts();
         conversionEndsInLow();
         deadInReset();
+        deadHoldsNothing();
+        deadInTheFirstPart();
         Check.end();
     }
 
@@ -385,6 +387,33 @@ public final class LineTest {
         // 6 and RISE LOW, 93 others CONVERTING, 100 others.
         x.slot(6, 0, 200);
         Check.dueDevice("three parts", x, 0, 4, charge - 7 - 21 - 2 * 93 + 100);
+    }
+
+    private static void deadHoldsNothing() {
+        LoneWire x = new LoneWire();
+        x.attach(SWITCH, 0, 30, 0, true);
+        x.slot(470, 0, 470);
+        for (int i = 0; i < 3; i++) {
+            x.slot(400, 0, 400);
+        }
+        x.idle(5);
+        Check.dueDevice("CHARGE", x, 0, 4, 2000 - 1670 - 1 + 4);
+        // PRESENCE would go on from 511 till 631.
+        Check.due("its PRESENCE", 0, x.slot(480, 515, 520));
+        Check.dueDevice("DEAD", x, 0, 3, 3);
+        Check.due("it holds nothing any more", 1, x.slot(1, 5, 5));
+        Check.due("not LOW but by the host", 2, x.trace(0, 5));
+    }
+
+    private static void deadInTheFirstPart() {
+        LoneWire x = new LoneWire();
+        x.attach(THERMOMETER, 0, 15, 0, true);
+        Check.tellAll(x, 68);
+        x.idle((x.device(0, 4) - 200) / 2);
+        Check.due("CHARGE 200 or 201", 100, x.lasts(0));
+        x.slot(100, 0, 120);
+        Check.due("it runs out by 101 LOW US alone", 1, x.count(6));
+        Check.dueDevice("all others are without CONVERTING", x, 0, 4, 19);
     }
 
     private static void deadInReset() {

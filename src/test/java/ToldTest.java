@@ -65,11 +65,13 @@ public final class ToldTest {
         x.attach(THERMOMETER, 0, 30, 0, false);
         x.attach(THERMOMETER, 0x40000000, 30, 0, false);
         x.attach(SWITCH, 0, 30, 0, false);
+        x.attach(MEMORY, 0, 30, 0, false);
         Check.due("in the SERIAL", 38, x.parts(0, 1));
+        Check.due("the first of all", 0, x.parts(0, 3));
         Check.due("the other way", 38, x.parts(1, 0));
         Check.due("in the FAMILY", 1, x.parts(1, 2));
         Check.due("both are one", LoneWire.NONE, x.parts(2, 2));
-        Check.due("none such", LoneWire.NONE, x.parts(0, 3));
+        Check.due("none such", LoneWire.NONE, x.parts(0, 4));
         Check.due("none such", LoneWire.NONE, x.parts(-1, 0));
         Check.due("none such", LoneWire.NONE, x.parts(8, 8));
     }
@@ -183,6 +185,7 @@ public final class ToldTest {
         x.time(0, 7, 1);
         dueBlameWith(x, 0, 6, 152, 32);
         dueBlameWith(x, 0, 6, 30, 32);
+        dueBlameWith(x, 0, 6, 31, 64);
         x.time(0, 7, 420);
         dueBlameWith(x, 0, 5, 479, 128);
         dueBlameWith(x, 0, 5, 1000, 0);
