@@ -870,13 +870,15 @@ public final class LoneWire {
             letSample();
             int sampled = sample == NONE ? NONE : isLow(now + sample) ? 0 : 1;
             slots++;
-            resets += reset;
             int lows = lowWithin(length);
             keepTrace(low, length, sampled, seen, reset, lows);
             passTime(length, lows, false);
             for (int i = 0; i < devices.length; i++) {
-                if (devices[i] != null) {
-                    devices[i].goOn();
+                Device device = devices[i];
+                if (device != null) {
+                    // Who has been DEAD in this SLOT has lost what it saw, and is not RESET.
+                    resets += device.edge == Device.IS_RESET ? 1 : 0;
+                    device.goOn();
                 }
             }
             return sampled;

@@ -431,8 +431,10 @@ public final class LineTest {
         Check.dueDevice("CHARGE", x, 0, 4, 700 - 272 + 128);
         int resets = x.count(4);
         Check.due("its PRESENCE goes on in the SLOT", 0, x.slot(600, 640, 1000));
-        Check.due("both saw that RESET", resets + 2, x.count(4));
         Check.due("it came to be DEAD", 1, x.count(6));
+        Check.due("who has been DEAD is not RESET", resets + 1, x.count(4));
+        Check.due("both saw the EDGE", 2, x.trace(0, 3));
+        Check.due("for both it was a RESET", 2, x.trace(0, 4));
         Check.dueDevice("DEAD", x, 0, 3, 3);
         Check.dueDevice("no ALARM", x, 0, 5, 0);
         Check.dueDevice("OUTPUTS as at first", x, 0, 8, 0);

@@ -567,7 +567,6 @@ final class Model {
             if (low >= 480 || d.speed == 1 && low >= 48) {
                 d.isReset = true;
                 reset++;
-                resetCount++;
                 d.speed = low >= 480 ? 0 : d.speed;
                 long from = now + low + rise() + d.clock();
                 holds.add(new Hold(d, from, from + 4 * d.clock()));
@@ -594,6 +593,7 @@ final class Model {
                 continue;
             }
             if (d.isReset) {
+                resetCount++;
                 d.beReset();
             } else if (!d.plan.isEmpty()) {
                 d.plan.poll().then.accept(d.took);

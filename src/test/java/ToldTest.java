@@ -239,7 +239,31 @@ public final class ToldTest {
         }
         Check.due("one died", 1, x.count(6));
         Check.due("the DEAD one misses none", 3 + 3 + 3 + 2, x.count(5));
+        Check.due("the first of these RESET all", 3 + 9 + 3, x.count(4));
         x.speed(1);
         Check.due("SPEED", 1, x.count(1));
+        resetsOfTheDead();
+    }
+
+    private static void resetsOfTheDead() {
+        LoneWire x = new LoneWire();
+        x.attach(THERMOMETER, 0, 15, 0, true);
+        Check.tellAll(x, 68);
+        Check.due("RESET ahead of 68", 1, x.count(4));
+        x.slot(480, 0, 900);
+        Check.due("it died", 1, x.count(6));
+        Check.due("who dies in the SLOT is not RESET", 1, x.count(4));
+        x.slot(480, 0, 900);
+        Check.due("DEAD it sees none", 1, x.count(4));
+        // It is at 0 behind the LOW US of the SLOT, and alive again behind all others.
+        x.idle(2000);
+        Check.tellAll(x, 68);
+        Check.due("RESET again", 2, x.count(4));
+        x.slot(480, 0, 2000);
+        Check.due("it died again", 2, x.count(6));
+        Check.dueDevice("and is alive, but DEAF", x, 0, 3, 0);
+        Check.due("who has been DEAD in the SLOT is not RESET", 2, x.count(4));
+        x.slot(480, 0, 900);
+        Check.due("alive it is RESET", 3, x.count(4));
     }
 }
