@@ -42,6 +42,24 @@ final class Check {
         }
     }
 
+    /** CHECKSUM, told once more: of bits as the document has them. */
+    static int checksum(long v, int n) {
+        int x = 0;
+        for (int i = 0; i < n; i++) {
+            boolean f = (x & 1) != (v >>> i & 1);
+            x = f ? x / 2 ^ 140 : x / 2;
+        }
+        return x;
+    }
+
+    /** Takes so much CHARGE of one that is FED and DEAF, full or not: LOW in each US, and no RESET at SPEED 0. */
+    static void drain(LoneWire x, int us) {
+        for (int left = us; left > 0; left -= 400) {
+            int low = Math.min(left, 400);
+            x.slot(low, 0, low);
+        }
+    }
+
     /** RESET, 204, then these bytes. */
     static void tellAll(LoneWire x, int... bytes) {
         x.reset();
