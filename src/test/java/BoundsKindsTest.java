@@ -19,8 +19,12 @@ public final class BoundsKindsTest {
         mineIsLostByDying();
         otherCommands();
         otherKindCommands();
+        commandsLeaveTheRest();
         conversionTimes();
+        conversionBeginsAnew();
+        conversionFineThen();
         conversionHidesTillThrough();
+        conversionTells();
         conversionAlarmBounds();
         conversionFine();
         storeListensTo24();
@@ -37,6 +41,7 @@ public final class BoundsKindsTest {
         memoryPutsOnTarget();
         memoryReadsGoRound();
         memoryNeverAlarms();
+        deadLosesItsStore();
         counterTellsItsCount();
         counterListensTo32();
         counterClears();
@@ -302,6 +307,38 @@ public final class BoundsKindsTest {
         }
     }
 
+    /** What is in store changes by its own COMMANDS alone. */
+    private static void commandsLeaveTheRest() {
+        for (int command = 0; command < 256; command++) {
+            LoneWire x = thermometer(1, 2, 1);
+            Check.tellAll(x, command);
+            dueStored(x, command == 184 ? 75 : 1, command == 184 ? 70 : 2, command == 184 ? 3 : 1);
+            Check.dueDevice("HEAT", x, 0, 7, 1360);
+            Check.tellAll(x, 184);
+            dueStored(x, command == 72 ? 1 : 75, command == 72 ? 2 : 70, command == 72 ? 1 : 3);
+            LoneWire y = with(SWITCH);
+            Check.tellAll(y, 90, 3, 252);
+            y.press(0, 1, true);
+            Check.tellAll(y, command);
+            Check.dueDevice("OUTPUTS behind " + command, y, 0, 8, 3);
+            Check.dueDevice("PINS behind " + command, y, 0, 7, 2);
+            Check.dueDevice("ALARM behind " + command, y, 0, 5, command == 245 ? 0 : 1);
+            LoneWire z = with(MEMORY);
+            Check.tellAll(z, 15, 9, 1, 2, 3, 4);
+            Check.tellAll(z, command);
+            Check.dueDevice("TARGET behind " + command, z, 0, 7, 9);
+            Check.dueDevice("PAD behind " + command, z, 0, 8, 0x04030201);
+            Check.due("byte 9 behind " + command, 0, z.stored(0, 9));
+            LoneWire v = with(COUNTER);
+            Check.tellAll(v, 77, 2, 0, 0, 0);
+            v.pulse(0, 3);
+            Check.tellAll(v, command);
+            Check.dueDevice("COUNT behind " + command, v, 0, 7, command == 83 ? 0 : 3);
+            Check.dueDevice("LIMIT behind " + command, v, 0, 8, 2);
+            Check.dueDevice("ALARM behind " + command, v, 0, 5, command == 83 ? 0 : 1);
+        }
+    }
+
     private static boolean isIn(int v, int[] all) {
         for (int one : all) {
             if (one == v) {
@@ -344,6 +381,43 @@ public final class BoundsKindsTest {
         Check.dueDevice("through", y, 0, 6, 0);
     }
 
+    /** "a second 68 begins anew": while the first goes on, and with FINE as it is then. */
+    private static void conversionBeginsAnew() {
+        int until68 = 900 + 16 * 95;
+        LoneWire x = with(THERMOMETER);
+        Check.tellAll(x, 68);
+        x.idle(7200 - until68 - 1);
+        Check.tellAll(x, 68);
+        Check.dueDevice("the first had one US left", x, 0, 7, 1360);
+        x.idle(7199);
+        Check.dueDevice("one US is left of the second", x, 0, 6, 1);
+        Check.dueDevice("HEAT as it was", x, 0, 7, 1360);
+        x.idle(1);
+        Check.dueDevice("through", x, 0, 7, 320);
+        LoneWire y = with(THERMOMETER);
+        Check.tellAll(y, 68);
+        Check.tellAll(y, 78, 75, 70, 0);
+        Check.tellAll(y, 68);
+        y.idle(899);
+        Check.dueDevice("one US is left of 900", y, 0, 6, 1);
+        y.idle(1);
+        Check.dueDevice("through", y, 0, 6, 0);
+    }
+
+    /** FINE told while it CONVERTS: it goes on for as long as it was to, and HEAT is cut by FINE as it is behind that. */
+    private static void conversionFineThen() {
+        int until78 = 900 + 40 * 95;
+        LoneWire x = with(THERMOMETER);
+        x.heat(0, 327);
+        Check.tellAll(x, 68);
+        Check.tellAll(x, 78, 75, 70, 0);
+        x.idle(7200 - until78 - 1);
+        Check.dueDevice("one US is left of 7200", x, 0, 6, 1);
+        x.idle(1);
+        Check.dueDevice("through", x, 0, 6, 0);
+        Check.dueDevice("cut by FINE 0", x, 0, 7, 320);
+    }
+
     /** "behind that HEAT is what is there ..": not ahead of it. */
     private static void conversionHidesTillThrough() {
         LoneWire x = thermometer(75, 70, 0);
@@ -360,6 +434,25 @@ public final class BoundsKindsTest {
         x.heat(0, 0);
         x.idle(5000);
         Check.dueDevice("and no more behind it", x, 0, 7, 1200);
+    }
+
+    /** "it TELLS 0 as long as it CONVERTS (one that is FED: 1), then 1, till RESET". */
+    private static void conversionTells() {
+        for (int left : new int[] {0, 1, 2}) {
+            LoneWire x = thermometer(75, 70, 0);
+            Check.tellAll(x, 68);
+            x.idle(900 - left);
+            Check.due(left + " US are left as the SLOT begins", left == 0 ? 1 : 0, x.read(1));
+            Check.due("none are left", 255, x.read(8));
+            dueDoing("it TELLS on", x, 2);
+            x.reset();
+            dueDoing("till RESET", x, 1);
+        }
+        LoneWire y = new LoneWire();
+        y.attach(THERMOMETER, 0, 30, 0, true);
+        Check.tellAll(y, 68);
+        Check.due("FED: 1", 3, y.read(2));
+        Check.dueDevice("though it CONVERTS", y, 0, 6, 1);
     }
 
     private static void dueAlarm(int high, int low, int heat, int due) {
@@ -674,6 +767,34 @@ public final class BoundsKindsTest {
         x.reset();
         x.write(236, 8);
         dueDoing("DEAF", x, 0);
+    }
+
+    /** "what is in store, OUTPUTS are as at first": at CHARGE 0 not yet; "(Its bytes stay ..)". */
+    private static void deadLosesItsStore() {
+        for (int us : new int[] {2000, 2001}) {
+            boolean dead = us > 2000;
+            LoneWire x = new LoneWire();
+            x.attach(MEMORY, 0, 30, 0, true);
+            x.attach(SWITCH, 0, 30, 0, true);
+            x.attach(COUNTER, 0, 30, 0, true);
+            Check.tellAll(x, 15, 9, 1, 2, 3, 4);
+            Check.tellAll(x, 85, 9);
+            Check.tellAll(x, 90, 3, 252);
+            Check.tellAll(x, 77, 2, 0, 0, 0);
+            x.press(1, 0, true);
+            x.pulse(2, 3);
+            x.idle(2000);
+            Check.drain(x, us);
+            Check.dueDevice("TARGET", x, 0, 7, dead ? 0 : 9);
+            Check.dueDevice("PAD", x, 0, 8, dead ? 0 : 0x04030201);
+            Check.due("byte 9", 1, x.stored(0, 9));
+            Check.dueDevice("PINS", x, 1, 7, 1);
+            Check.dueDevice("OUTPUTS", x, 1, 8, dead ? 0 : 3);
+            Check.dueDevice("ALARM", x, 1, 5, dead ? 0 : 1);
+            Check.dueDevice("COUNT", x, 2, 7, dead ? 0 : 3);
+            Check.dueDevice("LIMIT", x, 2, 8, dead ? 0 : 2);
+            Check.dueDevice("ALARM", x, 2, 5, dead ? 0 : 1);
+        }
     }
 
     // ---- a COUNTER

@@ -19,6 +19,7 @@ public final class BoundsLineTest {
         traceOfNobody();
         resetNobody();
         resetLength();
+        resetSamplesTheLine();
         writeBits();
         writeLowestBits();
         writeLength();
@@ -256,6 +257,17 @@ public final class BoundsLineTest {
         Check.due("the shortest", 2, x.trace(0, 1));
     }
 
+    /** The host takes for PRESENCE what it samples: here its own low, let go less than RISE ago. */
+    private static void resetSamplesTheLine() {
+        for (int n : new int[] {2, 3}) {
+            LoneWire x = memories(n, 30);
+            x.time(0, 5, 10);
+            x.time(0, 6, 1);
+            Check.due("RISE " + x.count(8), n == 3, x.reset());
+            Check.due("nobody is RESET", 0, x.trace(0, 4));
+        }
+    }
+
     // ---- promise 14
 
     /** "The lowest n bits (0 .. 8) of a number are WRITTEN: TIME then; NONE: n can't be." */
@@ -424,6 +436,12 @@ public final class BoundsLineTest {
         Check.dueDevice("alive", y, 0, 3, 0);
         Check.due("none more", 0, y.idle(100000));
         Check.due("one in all", 1, y.count(6));
+        LoneWire z = new LoneWire();
+        z.attach(MEMORY, 0, 15, 0, true);
+        Check.drain(z, 2000);
+        z.strong(true);
+        Check.due("by RISE, STRONGLY or not", 1, z.idle(1));
+        Check.due("one in all", 1, z.count(6));
     }
 
     // ---- promise 17

@@ -37,6 +37,7 @@ public final class BoundsTermsTest {
         aliveAgainInTheSlot();
         deadTakesNothing();
         deadTellsNothing();
+        deadHoldsOnInTheSlot();
         notFedNeverDies();
         Check.end();
     }
@@ -694,6 +695,28 @@ public final class BoundsTermsTest {
             x.strong(true);
             x.idle(2000);
             Check.due("0, 1, 0, 0 of 40, or nothing", charge < 32 ? 15 : 2, x.read(4));
+        }
+    }
+
+    /** "holds nothing (what is LOW in this SLOT goes on as if it did)": for others, too. */
+    private static void deadHoldsOnInTheSlot() {
+        // At SPEED 1: LOW 49 by the host; PRESENCE of the first from 55 till 79, of the second from 51 till 59.
+        for (int charge : new int[] {311, 312}) {
+            LoneWire x = with(THERMOMETER, 15, 6, true);
+            Check.drain(x, 500);
+            x.attach(THERMOMETER, 1, 15, 2, true);
+            x.idle(1);
+            x.raise();
+            Check.writeBytes(x, 204, 68);
+            useUp(x, charge);
+            int other = x.device(1, 4);
+            x.slot(48, 0, 100);
+            Check.due("LOW", 49 + 29, x.trace(0, 5));
+            // 78 times 4 less: the first is DEAD by that, and has 22 others; or by these, 2 less in each.
+            Check.due("died", 1, x.count(6));
+            Check.dueDevice("the first", x, 0, 4, charge < 312 ? 22 : 0);
+            Check.dueDevice("the second has as many LOW US", x, 1, 4, other - 312 - 44);
+            Check.dueDevice("it is RESET", x, 1, 3, 1);
         }
     }
 

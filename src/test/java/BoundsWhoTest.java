@@ -20,6 +20,7 @@ public final class BoundsWhoTest {
         attachComesFresh();
         detachNumbers();
         detachTakesItsHold();
+        detachTakesWhatItLetGo();
         detachTakesItsRise();
         heatBounds();
         heatOfAnother();
@@ -253,6 +254,22 @@ public final class BoundsWhoTest {
         y.detach(0);
         Check.due("the second holds yet", 0, y.slot(1, 231, 231));
         Check.due("and no more behind that", 1, y.slot(1, 2, 10));
+    }
+
+    /** It has let go just now, less than RISE ago: that goes with it, too. */
+    private static void detachTakesWhatItLetGo() {
+        for (boolean goes : new boolean[] {false, true}) {
+            LoneWire x = new LoneWire();
+            x.attach(MEMORY, 0, 15, 0, false);
+            x.attach(MEMORY, 1, 60, 0, false);
+            // PRESENCE of the second till 481 + 300, LOW till 782.
+            x.slot(480, 0, 781);
+            if (goes) {
+                x.detach(1);
+            }
+            x.slot(1, 0, 50);
+            Check.due("the first sees it", goes ? 1 : 0, x.trace(0, 3));
+        }
     }
 
     /** With it goes the third of a US by which it makes RISE longer. */

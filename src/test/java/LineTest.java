@@ -360,7 +360,7 @@ public final class LineTest {
         y.idle(500);
         Check.dueDevice("alive at 500", y, 0, 3, 0);
         y.reset();
-        Check.due("then it is seen", 1, y.trace(0, 4));
+        Check.due("then it sees EDGES", 1, y.trace(0, 3));
     }
 
     /** CONVERTING goes on from the SLOT's beginning, LOW or not; behind it LOW costs 1 only. */
