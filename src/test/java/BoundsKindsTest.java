@@ -404,18 +404,19 @@ public final class BoundsKindsTest {
         Check.dueDevice("through", y, 0, 6, 0);
     }
 
-    /** FINE told while it CONVERTS: it goes on for as long as it was to, and HEAT is cut by FINE as it is behind that. */
+    /** FINE, HIGH, LOW told while it CONVERTS: it goes on for as long as it was to; behind that all is by what they are then. */
     private static void conversionFineThen() {
         int until78 = 900 + 40 * 95;
         LoneWire x = with(THERMOMETER);
         x.heat(0, 327);
         Check.tellAll(x, 68);
-        Check.tellAll(x, 78, 75, 70, 0);
+        Check.tellAll(x, 78, 30, 10, 0);
         x.idle(7200 - until78 - 1);
         Check.dueDevice("one US is left of 7200", x, 0, 6, 1);
         x.idle(1);
         Check.dueDevice("through", x, 0, 6, 0);
         Check.dueDevice("cut by FINE 0", x, 0, 7, 320);
+        Check.dueDevice("20 is below 30, above 10: no ALARM", x, 0, 5, 0);
     }
 
     /** "behind that HEAT is what is there ..": not ahead of it. */
