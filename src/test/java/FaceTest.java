@@ -6,18 +6,21 @@ import java.lang.reflect.Modifier;
 import java.util.Set;
 import java.util.TreeSet;
 
-/** The public face is the document's, and all else is private (LANGUAGE.md, rules 1, 5 and 11). */
+/** The public face is the document's, with what it throws, and all else is private (LANGUAGE.md, rules 1, 5 and 11). */
 public final class FaceTest {
+    private static final String ILLEGAL = " throws IllegalArgumentException";
+    private static final String NO_SUCH = " throws NoSuchElementException";
+    private static final String BOTH = " throws NoSuchElementException, IllegalArgumentException";
     private static final String[] FACE = {
-        "int attach(int, int, int, int, boolean)", "int detach(int)", "int heat(int, int)",
-        "boolean press(int, int, boolean)", "int device(int, int)", "int pulse(int, int)", "int stored(int, int)",
-        "int speed(int)", "int time(int, int, int)", "int slot(int, int, int)", "int trace(int, int)",
-        "boolean reset()", "int write(int, int)", "int read(int)", "int idle(int)", "boolean strong(boolean)",
-        "int pass(boolean)", "int anew()", "boolean target(int)", "int leave()", "int found(int)", "long forks()",
-        "int last()", "int roll(boolean)", "int known(int, int)", "int missing()", "int measure(int, int)",
-        "int measureAll(int)", "int measured(int)", "int look(int)", "int store(int, int, int)", "boolean raise()",
-        "int lasts(int)", "int branch(int)", "int parts(int, int)", "int limit(int, int, boolean)",
-        "int blame(int, int)", "int checksum(long, int)", "int count(int)"
+        "int attach(int, int, int, int, boolean)" + ILLEGAL, "int detach(int)" + NO_SUCH, "int heat(int, int)" + BOTH,
+        "boolean press(int, int, boolean)" + BOTH, "int device(int, int)" + NO_SUCH, "int pulse(int, int)" + BOTH,
+        "int stored(int, int)" + BOTH, "int speed(int)", "int time(int, int, int)", "int slot(int, int, int)",
+        "int trace(int, int)", "boolean reset()", "int write(int, int)", "int read(int)", "int idle(int)",
+        "boolean strong(boolean)", "int pass(boolean)", "int anew()", "boolean target(int)", "int leave()",
+        "int found(int)", "long forks()", "int last()", "int roll(boolean)", "int known(int, int)", "int missing()",
+        "int measure(int, int)", "int measureAll(int)", "int measured(int)", "int look(int)", "int store(int, int, int)",
+        "boolean raise()", "int lasts(int)" + NO_SUCH, "int branch(int)", "int parts(int, int)",
+        "int limit(int, int, boolean)", "int blame(int, int)" + NO_SUCH, "int checksum(long, int)", "int count(int)"
     };
 
     public static void main(String[] args) {
@@ -35,7 +38,10 @@ public final class FaceTest {
         }
         Check.due("all of the face: " + due + " are not there", 0, due.size());
         for (Field field : LoneWire.class.getDeclaredFields()) {
-            if (!field.getName().equals("NONE")) {
+            if (field.getName().equals("NONE")) {
+                Check.due("NONE is public, static, final and an int", true,
+                    field.getModifiers() == (Modifier.PUBLIC | Modifier.STATIC | Modifier.FINAL) && field.getType() == int.class);
+            } else {
                 duePrivate(field);
             }
         }
@@ -75,6 +81,11 @@ public final class FaceTest {
         for (int i = 0; i < method.getParameterCount(); i++) {
             text.append(i == 0 ? "" : ", ").append(method.getParameterTypes()[i].getName());
         }
-        return text.append(')').toString();
+        text.append(')');
+        Class<?>[] thrown = method.getExceptionTypes();
+        for (int i = 0; i < thrown.length; i++) {
+            text.append(i == 0 ? " throws " : ", ").append(thrown[i].getSimpleName());
+        }
+        return text.toString();
     }
 }
